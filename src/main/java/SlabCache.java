@@ -14,7 +14,8 @@ public final class SlabCache {
     private static final int NO_KEY = -1;
 
     // No two items share a key, so the key itself is the place where an item's
-    // state stands. Cells of one sort are all alike and are only counted.
+    // state stands. Its length shows only through its sort, and the cells of one
+    // sort are all alike, so neither is kept: cells are counted.
     private final boolean[] held = new boolean[KEYS];
     private final int[] sortOf = new int[KEYS];
     private final int[] valueOf = new int[KEYS];

@@ -6,7 +6,8 @@ public final class ModelTest {
     private static final int RUNS = 4000;
     private static final int CALLS_IN_A_RUN = 512;
     private static final int[] EDGES = {
-        Integer.MIN_VALUE, -1000, -2, -1, 0, 1, 3, 4, 255, 256, 257, 1000, 1001, Integer.MAX_VALUE
+        Integer.MIN_VALUE, -1000, -2, -1, 0, 1, 3, 4, 12, 13, 255, 256, 257, 1000, 1001,
+        Integer.MAX_VALUE
     };
 
     private final SlabCache cache = new SlabCache();

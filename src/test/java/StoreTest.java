@@ -37,7 +37,7 @@ public final class StoreTest {
             Checks.due("new: has(" + key + ")", c.has(key), 0);
         }
         Checks.due("new: tick(1000)", c.tick(1000), 0);
-        // With the clock at 0, an end of 1 is passed by the first step of 1.
+        // Where the clock begins shows only through ends, which count from it.
         SlabCache d = new SlabCache();
         Checks.due("new: store(0, 1, 7, 1)", d.store(0, 1, 7, 1), 1);
         Checks.due("new: has(0)", d.has(0), 1);
