@@ -1,31 +1,28 @@
-/** Promise 1 (a new object), promise 2 (store) and the terms that store rests on. */
+/** Promise 1 (a new object) and promise 2 (store); each sentence is quoted over the tests that hold it. */
 public final class StoreTest {
-    private static final int LEAST = Integer.MIN_VALUE;
-    private static final int GREATEST = Integer.MAX_VALUE;
-
     public static void main(String[] args) {
         newObjectIsEmpty();
         objectsAreApart();
         storesAnItem();
-        lengthTellsTheSort();
-        pagesHaveTheirCells();
-        storeSetsTheEnd();
-        storingIsAUse();
+        endIsTheClockAndTheTime();
+        noEndIfTheTimeIsZero();
+        newEndTakesThePlaceOfTheOld();
         sameSortTakesTheCell();
         sameSortTakesTheCellOfAFullSort();
-        otherSortMakesRoomFirst();
-        otherSortMayGiveUpAnItem();
+        Checks.forEachTwoSorts(StoreTest::otherSortTakesAFreeCell);
+        Checks.forEachTwoSorts(StoreTest::otherSortTakesAFreePage);
+        Checks.forEachTwoSorts(StoreTest::otherSortGivesUpItsLongestUnused);
         otherSortGivesBackTheCell();
-        fullSortGivesUpTheOldest();
-        freeCellComesBeforeAFreePage();
-        pagesStayWithTheirSort();
-        noRoomChangesNothing();
-        noRoomIfTheSortHasPagesOfOthersOnly();
-        wrongInputsChangeNothing();
+        Checks.forEachTwoSorts(StoreTest::noRoomInTheOtherSortKeepsTheOldItem);
+        aGoneItemIsNoOldItem();
+        keysInAndOutOfRange();
+        lengthsInAndOutOfRange();
+        timesInAndOutOfRange();
         wrongInputsComeBeforeNoRoom();
         Checks.finish();
     }
 
+    // "No item; the clock is 0; all pages are free."
     private static void newObjectIsEmpty() {
         SlabCache c = new SlabCache();
         Checks.dueItems("new", c, 0, 0, 0);
@@ -43,6 +40,10 @@ public final class StoreTest {
         Checks.due("new: has(0)", d.has(0), 1);
         Checks.due("new: tick(0)", d.tick(0), 0);
         Checks.due("new: tick(1)", d.tick(1), 1);
+        SlabCache e = new SlabCache();
+        for (int key : new int[] {0, 255}) {
+            Checks.dueNone("new", e, key);
+        }
     }
 
     private static void objectsAreApart() {
@@ -55,229 +56,264 @@ public final class StoreTest {
         Checks.due("apart: items(0)", a.items(0), 1);
     }
 
+    // "Stores an item with the key, length and value" ... "Answers the item's number"
     private static void storesAnItem() {
         SlabCache c = new SlabCache();
-        Checks.due("store(0, 1, LEAST, 0)", c.store(0, 1, LEAST, 0), 1);
-        Checks.due("store(255, 12, GREATEST, 1000)", c.store(255, 12, GREATEST, 1000), 2);
+        Checks.due("store(0, 1, 10, 0)", c.store(0, 1, 10, 0), 1);
+        Checks.due("store(255, 12, 20, 1000)", c.store(255, 12, 20, 1000), 2);
         Checks.due("store(128, 6, 0, 1)", c.store(128, 6, 0, 1), 3);
-        Checks.due("get(0)", c.get(0), LEAST);
-        Checks.due("get(255)", c.get(255), GREATEST);
+        Checks.due("get(0)", c.get(0), 10);
+        Checks.due("get(255)", c.get(255), 20);
         Checks.due("get(128)", c.get(128), 0);
         Checks.due("has(128)", c.has(128), 1);
+        Checks.due("number(0)", c.number(0), 1);
+        Checks.due("number(255)", c.number(255), 2);
         Checks.due("number(128)", c.number(128), 3);
         Checks.dueItems("stored", c, 1, 1, 1);
     }
 
-    private static void lengthTellsTheSort() {
-        int[] sorts = {0, 0, 0, 1, 1, 1, 2, 2, 2, 2, 2, 2};
-        for (int length = 1; length <= 12; length++) {
-            SlabCache c = new SlabCache();
-            c.store(9, length, 1, 0);
-            for (int sort = 0; sort < 3; sort++) {
-                int want = sorts[length - 1] == sort ? 1 : 0;
-                Checks.due("length " + length + ": items(" + sort + ")", c.items(sort), want);
-                Checks.due("length " + length + ": pages(" + sort + ")", c.pages(sort), want);
+    // "with the end clock + time"
+    private static void endIsTheClockAndTheTime() {
+        int[] clocks = {0, 1, 100, 1000};
+        int[] times = {1, 2, 999, 1000};
+        for (int clock : clocks) {
+            for (int time : times) {
+                SlabCache c = new SlabCache();
+                c.tick(clock);
+                c.store(1, 1, 1, time);
+                String when = "stored at " + clock + " for " + time;
+                Checks.due(when + ": tick before the end", c.tick(time - 1), 0);
+                Checks.due(when + ": has(1) before the end", c.has(1), 1);
+                Checks.due(when + ": tick to the end", c.tick(1), 1);
+                Checks.due(when + ": has(1) at the end", c.has(1), 0);
             }
         }
     }
 
-    private static void pagesHaveTheirCells() {
-        int[] lengths = {3, 6, 12};
-        int[] cells = {4, 2, 1};
-        for (int sort = 0; sort < 3; sort++) {
+    // "or none if time is 0"
+    private static void noEndIfTheTimeIsZero() {
+        int[] clocks = {0, 1, 1000};
+        for (int clock : clocks) {
             SlabCache c = new SlabCache();
-            for (int i = 0; i < 8 * cells[sort]; i++) {
-                c.store(i, lengths[sort], i, 0);
-                Checks.due("item " + i + ": pages(" + sort + ")", c.pages(sort), i / cells[sort] + 1);
-                Checks.due("item " + i + ": pages(3)", c.pages(3), 7 - i / cells[sort]);
-            }
-            Checks.due("full: items(" + sort + ")", c.items(sort), 8 * cells[sort]);
+            c.tick(clock);
+            Checks.due("no end: store(1, 1, 7, 0)", c.store(1, 1, 7, 0), 1);
+            Checks.due("no end: has(1)", c.has(1), 1);
+            Checks.due("no end: tick(0)", c.tick(0), 0);
+            Checks.due("no end: tick(1)", c.tick(1), 0);
+            Checks.due("no end: tick(1000)", c.tick(1000), 0);
+            Checks.due("no end: get(1)", c.get(1), 7);
         }
     }
 
-    private static void storeSetsTheEnd() {
-        SlabCache c = new SlabCache();
-        c.tick(100);
-        c.store(1, 1, 1, 5);
-        c.store(2, 1, 2, 0);
-        c.store(3, 1, 3, 1000);
-        c.store(4, 1, 4, 5);
-        c.store(4, 1, 4, 0);
-        c.store(5, 1, 5, 0);
-        c.store(5, 1, 5, 5);
-        Checks.due("end: tick(4)", c.tick(4), 0);
-        Checks.due("end: tick(1)", c.tick(1), 2);
-        Checks.due("end: has(1)", c.has(1), 0);
-        Checks.due("end: has(4)", c.has(4), 1);
-        Checks.due("end: has(5)", c.has(5), 0);
-        Checks.due("end: tick(994)", c.tick(994), 0);
-        Checks.due("end: tick(1), the last", c.tick(1), 1);
-        Checks.due("end: has(3)", c.has(3), 0);
-        Checks.due("end: has(2)", c.has(2), 1);
-        // A key that had an end has none when it is stored anew without one.
-        c.store(1, 1, 1, 0);
-        Checks.due("end: tick(1000)", c.tick(1000), 0);
-        Checks.due("end: has(1) stored anew", c.has(1), 1);
+    private static void newEndTakesThePlaceOfTheOld() {
+        int[] lengths = {1, 3, 4, 12};
+        for (int length : lengths) {
+            SlabCache c = new SlabCache();
+            c.store(4, 1, 4, 5);
+            c.store(4, length, 4, 0);
+            c.store(5, 1, 5, 0);
+            c.store(5, length, 5, 5);
+            c.store(6, 1, 6, 5);
+            c.store(6, length, 6, 6);
+            Checks.due("new end: tick(4)", c.tick(4), 0);
+            Checks.due("new end: tick(1)", c.tick(1), 1);
+            Checks.due("new end: has(5)", c.has(5), 0);
+            Checks.due("new end: tick(1) again", c.tick(1), 1);
+            Checks.due("new end: has(6)", c.has(6), 0);
+            Checks.due("new end: tick(1000)", c.tick(1000), 0);
+            Checks.due("new end: has(4)", c.has(4), 1);
+            // A key whose item had an end, and is gone by it, has none when it is stored anew without one.
+            c.store(5, length, 5, 0);
+            Checks.due("new end: tick(1000) stored anew", c.tick(1000), 0);
+            Checks.due("new end: has(5) stored anew", c.has(5), 1);
+        }
     }
 
-    private static void storingIsAUse() {
-        SlabCache c = Checks.filled(10, 3, 2);
-        Checks.due("use: oldest(0)", c.oldest(0), 10);
-        c.store(10, 3, 1, 0);
-        Checks.due("use: oldest(0) after store(10)", c.oldest(0), 11);
-        c.store(11, 2, 11, 0);
-        Checks.due("use: oldest(0) after store(11)", c.oldest(0), 12);
-    }
-
+    // "if it is of the same sort, it takes that one's cell"
     private static void sameSortTakesTheCell() {
-        SlabCache c = new SlabCache();
-        c.store(5, 7, 1, 0);
-        Checks.due("same sort: store(5, 12, 2, 0)", c.store(5, 12, 2, 0), 2);
-        Checks.due("same sort: get(5)", c.get(5), 2);
-        Checks.dueItems("same sort", c, 0, 0, 1);
-        Checks.duePages("same sort", c, 0, 0, 1, 7);
+        for (int sort = 0; sort < 3; sort++) {
+            // With all its pages full and a page free, it must not take that page.
+            SlabCache c = Checks.fullPages(2, sort);
+            int count = 2 * Checks.CELLS[sort];
+            Checks.due("same sort: store(1)", c.store(1, Checks.SHORTEST[sort], 50, 0), count + 1);
+            Checks.due("same sort: get(1)", c.get(1), 50);
+            Checks.due("same sort: number(1)", c.number(1), count + 1);
+            Checks.due("same sort: items(" + sort + ")", c.items(sort), count);
+            Checks.due("same sort: pages(" + sort + ")", c.pages(sort), 2);
+            Checks.due("same sort: pages(3)", c.pages(3), 6);
+        }
+        // With a cell free, it must leave that cell free.
+        SlabCache d = Checks.filled(0, 3, 1);
+        d.store(0, 2, 1, 0);
+        d.store(3, 2, 1, 0);
+        Checks.dueItems("same sort, a cell free", d, 4, 0, 0);
+        Checks.duePages("same sort, a cell free", d, 1, 0, 0, 7);
     }
 
     private static void sameSortTakesTheCellOfAFullSort() {
-        SlabCache c = Checks.filled(0, 8, 8);
-        Checks.due("full sort: store(3, 9, 33, 0)", c.store(3, 9, 33, 0), 9);
-        Checks.due("full sort: items(2)", c.items(2), 8);
-        Checks.due("full sort: has(0)", c.has(0), 1);
-        Checks.due("full sort: oldest(2)", c.oldest(2), 0);
-        Checks.due("full sort: get(3)", c.get(3), 33);
+        for (int sort = 0; sort < 3; sort++) {
+            int count = 8 * Checks.CELLS[sort];
+            int[] keys = {0, 3, count - 1};
+            for (int key : keys) {
+                SlabCache c = Checks.fullPages(8, sort);
+                Checks.due("full: store(" + key + ")", c.store(key, Checks.SHORTEST[sort], 50, 0), count + 1);
+                Checks.due("full: items(" + sort + ")", c.items(sort), count);
+                for (int k = 0; k < count; k++) {
+                    Checks.due("full, store(" + key + "): has(" + k + ")", c.has(k), 1);
+                }
+                Checks.due("full, store(" + key + "): oldest(" + sort + ")", c.oldest(sort), key == 0 ? 1 : 0);
+                Checks.due("full, store(" + key + "): get", c.get(key), 50);
+            }
+        }
+        // The only cell of its sort, and no page free: still room for the item itself.
+        SlabCache alone = Checks.fullPages(7, 0);
+        alone.store(100, 12, 1, 0);
+        Checks.due("only cell: store(100, 7, 2, 0)", alone.store(100, 7, 2, 0), 30);
+        Checks.due("only cell: get(100)", alone.get(100), 2);
+        Checks.dueItems("only cell", alone, 28, 0, 1);
     }
 
-    private static void otherSortMakesRoomFirst() {
-        SlabCache c = new SlabCache();
-        c.store(5, 3, 1, 0);
-        Checks.due("other sort: store(5, 4, 2, 0)", c.store(5, 4, 2, 0), 2);
-        Checks.due("other sort: get(5)", c.get(5), 2);
-        Checks.due("other sort: number(5)", c.number(5), 2);
-        Checks.dueItems("other sort", c, 0, 1, 0);
-        Checks.duePages("other sort", c, 1, 1, 0, 6);
-        Checks.due("other sort: oldest(0)", c.oldest(0), -1);
-        Checks.due("other sort: oldest(1)", c.oldest(1), 5);
+    // "else room is made in its own sort first, and then the old item is gone"
+    private static void otherSortTakesAFreeCell(int from, int to) {
+        SlabCache c = Checks.fullPages(1, from);
+        Checks.fill(c, 100, Checks.CELLS[to], Checks.LONGEST[to]);
+        c.remove(100);
+        c.store(0, Checks.SHORTEST[to], 50, 0);
+        dueMoved("free cell", c, from, to, Checks.CELLS[from] - 1, Checks.CELLS[to]);
+        Checks.due("free cell: pages(" + from + ")", c.pages(from), 1);
+        Checks.due("free cell: pages(" + to + ")", c.pages(to), 1);
+        Checks.due("free cell: pages(3)", c.pages(3), 6);
     }
 
-    private static void otherSortMayGiveUpAnItem() {
-        SlabCache c = Checks.filled(0, 7, 12);
-        c.store(100, 1, 100, 0);
-        Checks.due("give up: pages(3)", c.pages(3), 0);
-        Checks.due("give up: store(100, 7, 1, 0)", c.store(100, 7, 1, 0), 9);
-        Checks.due("give up: has(0)", c.has(0), 0);
-        Checks.due("give up: has(1)", c.has(1), 1);
-        Checks.dueItems("give up", c, 0, 0, 7);
-        Checks.duePages("give up", c, 1, 0, 7, 0);
+    private static void otherSortTakesAFreePage(int from, int to) {
+        // The last free page.
+        SlabCache c = Checks.fullPages(7, from);
+        c.store(0, Checks.SHORTEST[to], 50, 0);
+        dueMoved("free page", c, from, to, 7 * Checks.CELLS[from] - 1, 1);
+        Checks.due("free page: pages(" + from + ")", c.pages(from), 7);
+        Checks.due("free page: pages(" + to + ")", c.pages(to), 1);
+        Checks.due("free page: pages(3)", c.pages(3), 0);
+    }
+
+    private static void otherSortGivesUpItsLongestUnused(int from, int to) {
+        SlabCache c = Checks.fullPages(7, from);
+        Checks.fill(c, 100, Checks.CELLS[to], Checks.LONGEST[to]);
+        c.store(0, Checks.SHORTEST[to], 50, 0);
+        dueMoved("give up", c, from, to, 7 * Checks.CELLS[from] - 1, Checks.CELLS[to]);
+        Checks.due("give up: has(100)", c.has(100), 0);
+        Checks.due("give up: pages(" + from + ")", c.pages(from), 7);
+        Checks.due("give up: pages(" + to + ")", c.pages(to), 1);
+        Checks.due("give up: oldest(" + from + ")", c.oldest(from), 1);
+        Checks.due("give up: oldest(" + to + ")", c.oldest(to), Checks.CELLS[to] == 1 ? 0 : 101);
+    }
+
+    private static void dueMoved(String when, SlabCache c, int from, int to, int fromItems, int toItems) {
+        String move = when + ", sort " + from + " to " + to;
+        Checks.due(move + ": items(" + from + ")", c.items(from), fromItems);
+        Checks.due(move + ": items(" + to + ")", c.items(to), toItems);
+        Checks.due(move + ": has(0)", c.has(0), 1);
+        Checks.due(move + ": get(0)", c.get(0), 50);
     }
 
     private static void otherSortGivesBackTheCell() {
         SlabCache c = Checks.filled(0, 7, 12);
         Checks.fill(c, 50, 4, 1);
         c.store(50, 12, 1, 0);
-        Checks.due("cell back: items(0)", c.items(0), 3);
         c.store(60, 2, 1, 0);
-        Checks.due("cell back: items(0) again", c.items(0), 4);
-        Checks.due("cell back: oldest(0)", c.oldest(0), 51);
+        Checks.due("cell back: items(0)", c.items(0), 4);
+        Checks.due("cell back: has(51)", c.has(51), 1);
         c.store(61, 2, 1, 0);
-        Checks.due("cell back: has(51)", c.has(51), 0);
-        Checks.due("cell back: items(0) when full", c.items(0), 4);
+        Checks.dueOrder("no cell more", c, 0, 52, 53, 60, 61);
     }
 
-    private static void fullSortGivesUpTheOldest() {
-        SlabCache c = Checks.filled(0, 32, 1);
-        c.get(0);
-        Checks.due("full: store(200, 1, 1, 0)", c.store(200, 1, 1, 0), 33);
-        Checks.due("full: has(0)", c.has(0), 1);
-        Checks.due("full: has(1)", c.has(1), 0);
-        Checks.due("full: has(2)", c.has(2), 1);
-        Checks.due("full: items(0)", c.items(0), 32);
-        // The one given up is of the item's sort, even if another sort's is older.
-        SlabCache d = new SlabCache();
-        d.store(0, 1, 0, 0);
-        Checks.fill(d, 1, 7, 12);
-        d.store(9, 12, 1, 0);
-        Checks.due("own sort: has(0)", d.has(0), 1);
-        Checks.due("own sort: has(1)", d.has(1), 0);
-        Checks.due("own sort: store(10, 5, 1, 0)", d.store(10, 5, 1, 0), -2);
-    }
-
-    private static void freeCellComesBeforeAFreePage() {
-        SlabCache c = Checks.filled(0, 8, 1);
-        c.remove(2);
-        c.store(20, 1, 1, 0);
-        Checks.duePages("free cell", c, 2, 0, 0, 6);
-        c.store(21, 1, 1, 0);
-        Checks.duePages("free page", c, 3, 0, 0, 5);
-        Checks.due("free page: has(0)", c.has(0), 1);
-    }
-
-    private static void pagesStayWithTheirSort() {
-        SlabCache c = Checks.filled(0, 8, 12);
-        for (int key = 0; key < 8; key++) {
-            c.remove(key);
-        }
-        Checks.dueItems("emptied", c, 0, 0, 0);
-        Checks.duePages("emptied", c, 0, 0, 8, 0);
-        Checks.due("emptied: store(1, 1, 1, 0)", c.store(1, 1, 1, 0), -2);
-        Checks.due("emptied: store(1, 4, 1, 0)", c.store(1, 4, 1, 0), -2);
-        Checks.due("emptied: store(1, 7, 1, 0)", c.store(1, 7, 1, 0), 9);
-    }
-
-    private static void noRoomChangesNothing() {
-        SlabCache c = new SlabCache();
-        c.store(0, 12, 70, 5);
-        Checks.fill(c, 1, 7, 12);
-        Checks.due("no room: store(0, 1, 9, 0)", c.store(0, 1, 9, 0), -2);
-        Checks.due("no room: store(100, 6, 9, 0)", c.store(100, 6, 9, 0), -2);
-        Checks.due("no room: has(100)", c.has(100), 0);
+    // "-2, and changes nothing, if there is no room" (that nothing else changes is in UnchangedTest)
+    private static void noRoomInTheOtherSortKeepsTheOldItem(int from, int to) {
+        SlabCache c = Checks.fullPages(8, from);
+        c.touch(0, 5);
+        Checks.due("no room: store(0)", c.store(0, Checks.LONGEST[to], 9, 0), -2);
+        Checks.due("no room: store(200)", c.store(200, Checks.LONGEST[to], 9, 0), -2);
+        Checks.due("no room: has(200)", c.has(200), 0);
         Checks.due("no room: number(0)", c.number(0), 1);
-        Checks.due("no room: oldest(2)", c.oldest(2), 0);
-        Checks.dueItems("no room", c, 0, 0, 8);
-        Checks.duePages("no room", c, 0, 0, 8, 0);
-        Checks.due("no room: get(0)", c.get(0), 70);
+        Checks.due("no room: oldest(" + from + ")", c.oldest(from), 1);
+        Checks.due("no room: items(" + to + ")", c.items(to), 0);
+        Checks.due("no room: items(" + from + ")", c.items(from), 8 * Checks.CELLS[from]);
+        Checks.due("no room: get(0)", c.get(0), 0);
+        Checks.due("no room: get(1)", c.get(1), 1);
         Checks.due("no room: tick(5)", c.tick(5), 1);
-        Checks.due("no room: the next number", c.store(200, 12, 1, 0), 9);
+        Checks.due("no room: has(0) at its end", c.has(0), 0);
+        Checks.due("no room: the next number", c.store(200, Checks.LONGEST[from], 1, 0),
+            8 * Checks.CELLS[from] + 1);
     }
 
-    private static void noRoomIfTheSortHasPagesOfOthersOnly() {
-        SlabCache c = Checks.filled(0, 16, 1);
-        Checks.fill(c, 100, 8, 5);
-        Checks.duePages("two sorts", c, 4, 4, 0, 0);
-        Checks.due("two sorts: store(50, 7, 1, 0)", c.store(50, 7, 1, 0), -2);
-        Checks.due("two sorts: store(50, 4, 1, 0)", c.store(50, 4, 1, 0), 25);
-        Checks.due("two sorts: has(100)", c.has(100), 0);
+    // "If there is an item with the key": one that is gone is none.
+    private static void aGoneItemIsNoOldItem() {
+        SlabCache c = Checks.fullPages(8, 2);
+        c.touch(3, 1);
+        c.tick(1);
+        Checks.due("gone: store(3, 1, 9, 0)", c.store(3, 1, 9, 0), -2);
+        Checks.due("gone: has(3)", c.has(3), 0);
+        c.store(100, 12, 1, 0);
+        Checks.due("gone: has(0)", c.has(0), 1);
+        // Its cell is taken now, so it has no cell of its own to go back to.
+        Checks.due("gone: store(3, 12, 9, 0)", c.store(3, 12, 9, 0), 10);
+        Checks.dueOrder("gone", c, 2, 1, 2, 4, 5, 6, 7, 100, 3);
     }
 
-    private static void wrongInputsChangeNothing() {
-        int[][] wrong = {
-            {-1, 1, 0}, {256, 1, 0}, {LEAST, 1, 0}, {GREATEST, 1, 0},
-            {7, 0, 0}, {7, -1, 0}, {7, 13, 0}, {7, LEAST, 0}, {7, GREATEST, 0},
-            {7, 1, -1}, {7, 1, 1001}, {7, 1, LEAST}, {7, 1, GREATEST},
-            {8, 4, -1}, {8, 0, 0}, {-1, 0, -1},
-        };
-        SlabCache c = new SlabCache();
-        c.store(7, 1, 77, 0);
-        c.store(6, 1, 66, 0);
-        for (int[] w : wrong) {
-            String call = "store(" + w[0] + ", " + w[1] + ", 9, " + w[2] + ")";
-            Checks.due(call, c.store(w[0], w[1], 9, w[2]), -1);
-            Checks.dueItems("after " + call, c, 2, 0, 0);
-            Checks.duePages("after " + call, c, 1, 0, 0, 7);
-            Checks.due("after " + call + ": oldest(0)", c.oldest(0), 7);
-            Checks.due("after " + call + ": number(7)", c.number(7), 1);
+    // "-1, and changes nothing, if key is out of range"
+    private static void keysInAndOutOfRange() {
+        dueAnswer(0, 1, 0, 1);
+        dueAnswer(255, 1, 0, 1);
+        int[] wrong = {-1, -2, -255, -256, 256, 257, 512, Checks.LEAST, Checks.GREATEST};
+        for (int key : wrong) {
+            dueAnswer(key, 1, 0, -1);
         }
-        Checks.due("wrong: has(8)", c.has(8), 0);
-        Checks.due("wrong: get(7)", c.get(7), 77);
-        Checks.due("wrong: the next number", c.store(1, 1, 1, 0), 3);
     }
 
+    // "length is not from 1 to 12"
+    private static void lengthsInAndOutOfRange() {
+        dueAnswer(7, 1, 0, 1);
+        dueAnswer(7, 12, 0, 1);
+        int[] wrong = {0, -1, -12, 13, 14, 24, Checks.LEAST, Checks.GREATEST};
+        for (int length : wrong) {
+            dueAnswer(7, length, 0, -1);
+        }
+    }
+
+    // "or time is not from 0 to 1000"
+    private static void timesInAndOutOfRange() {
+        dueAnswer(7, 1, 0, 1);
+        dueAnswer(7, 1, 1, 1);
+        dueAnswer(7, 1, 1000, 1);
+        int[] wrong = {-1, -2, -1000, 1001, 1002, 2000, Checks.LEAST, Checks.GREATEST};
+        for (int time : wrong) {
+            dueAnswer(7, 1, time, -1);
+        }
+    }
+
+    private static void dueAnswer(int key, int length, int time, int want) {
+        SlabCache c = new SlabCache();
+        String call = "store(" + key + ", " + length + ", 9, " + time + ")";
+        Checks.due(call, c.store(key, length, 9, time), want);
+        Checks.due(call + ": pages(3)", c.pages(3), want == 1 ? 7 : 8);
+        int there = c.items(0) + c.items(1) + c.items(2);
+        Checks.due(call + ": items of all sorts", there, want == 1 ? 1 : 0);
+        Checks.due(call + ": has(" + key + ")", c.has(key), want == 1 ? 1 : 0);
+        Checks.due(call + ": the next number", c.store(1, 1, 1, 0), want == 1 ? 2 : 1);
+    }
+
+    // "(tested in this order)"
     private static void wrongInputsComeBeforeNoRoom() {
-        SlabCache c = Checks.filled(0, 8, 12);
+        SlabCache c = Checks.fullPages(8, 2);
+        Checks.due("order: store(100, 1, 1, 0)", c.store(100, 1, 1, 0), -2);
         Checks.due("order: store(256, 1, 1, 0)", c.store(256, 1, 1, 0), -1);
+        Checks.due("order: store(-1, 1, 1, 0)", c.store(-1, 1, 1, 0), -1);
         Checks.due("order: store(100, 0, 1, 0)", c.store(100, 0, 1, 0), -1);
+        Checks.due("order: store(100, 13, 1, 0)", c.store(100, 13, 1, 0), -1);
         Checks.due("order: store(100, 1, 1, 1001)", c.store(100, 1, 1, 1001), -1);
         Checks.due("order: store(100, 1, 1, -1)", c.store(100, 1, 1, -1), -1);
+        Checks.due("order: store(0, 4, 1, -1)", c.store(0, 4, 1, -1), -1);
         Checks.due("order: store(100, 12, 1, 1001)", c.store(100, 12, 1, 1001), -1);
         Checks.due("order: has(0)", c.has(0), 1);
+        Checks.due("order: items(2)", c.items(2), 8);
     }
 }
