@@ -10,7 +10,9 @@ public final class StoreTest {
         sameSortTakesTheCell();
         sameSortTakesTheCellOfAFullSort();
         Checks.forEachTwoSorts(StoreTest::otherSortTakesAFreeCell);
+        Checks.forEachTwoSorts(StoreTest::otherSortTakesItsOnlyFreeCell);
         Checks.forEachTwoSorts(StoreTest::otherSortTakesAFreePage);
+        Checks.forEachTwoSorts(StoreTest::otherSortTakesAFreePageBesideItsFullOne);
         Checks.forEachTwoSorts(StoreTest::otherSortGivesUpItsLongestUnused);
         otherSortGivesBackTheCell();
         Checks.forEachTwoSorts(StoreTest::noRoomInTheOtherSortKeepsTheOldItem);
@@ -185,6 +187,20 @@ public final class StoreTest {
         Checks.due("free cell: pages(3)", c.pages(3), 6);
     }
 
+    private static void otherSortTakesItsOnlyFreeCell(int from, int to) {
+        // No page is free; of sort 2 there is not even an item to give up, and still room.
+        SlabCache c = Checks.fullPages(7, from);
+        Checks.fill(c, 100, Checks.CELLS[to], Checks.LONGEST[to]);
+        c.remove(100);
+        c.store(0, Checks.SHORTEST[to], 50, 0);
+        dueMoved("only free cell", c, from, to, 7 * Checks.CELLS[from] - 1, Checks.CELLS[to]);
+        for (int key = 101; key < 100 + Checks.CELLS[to]; key++) {
+            Checks.due("only free cell: has(" + key + ")", c.has(key), 1);
+        }
+        Checks.due("only free cell: pages(" + from + ")", c.pages(from), 7);
+        Checks.due("only free cell: pages(" + to + ")", c.pages(to), 1);
+    }
+
     private static void otherSortTakesAFreePage(int from, int to) {
         // The last free page.
         SlabCache c = Checks.fullPages(7, from);
@@ -193,6 +209,17 @@ public final class StoreTest {
         Checks.due("free page: pages(" + from + ")", c.pages(from), 7);
         Checks.due("free page: pages(" + to + ")", c.pages(to), 1);
         Checks.due("free page: pages(3)", c.pages(3), 0);
+    }
+
+    private static void otherSortTakesAFreePageBesideItsFullOne(int from, int to) {
+        SlabCache c = Checks.fullPages(6, from);
+        Checks.fill(c, 100, Checks.CELLS[to], Checks.LONGEST[to]);
+        c.store(0, Checks.SHORTEST[to], 50, 0);
+        dueMoved("free page again", c, from, to, 6 * Checks.CELLS[from] - 1, Checks.CELLS[to] + 1);
+        Checks.due("free page again: oldest(" + to + ")", c.oldest(to), 100);
+        Checks.due("free page again: pages(" + from + ")", c.pages(from), 6);
+        Checks.due("free page again: pages(" + to + ")", c.pages(to), 2);
+        Checks.due("free page again: pages(3)", c.pages(3), 0);
     }
 
     private static void otherSortGivesUpItsLongestUnused(int from, int to) {
